@@ -1,9 +1,14 @@
-import java.util.function.Consumer;
 import java.util.function.ToIntFunction;
 
 /** Counts and prints the answers that are not the ones that are due. */
 final class Due {
     private int wrong = 0;
+    private String sentence = "";
+
+    /** The sentence of the document that the answers from here on are due by. */
+    void sentence(String quote) {
+        sentence = "\"" + quote + "\": ";
+    }
 
     void answer(String call, long got, long want) {
         if (got != want) {
@@ -28,53 +33,76 @@ final class Due {
         answer(when + ": letter behind the end", x.letter(want.length()), SelectiveUndo.NONE);
     }
 
-    /** The call gives the answer, and the object is then as one without that call: a refusal, or a question. */
-    void keeps(String call, long want, Consumer<SelectiveUndo> build, ToIntFunction<SelectiveUndo> run) {
-        SelectiveUndo called = new SelectiveUndo();
-        SelectiveUndo spared = new SelectiveUndo();
-        build.accept(called);
-        build.accept(spared);
-        answer(call, run.applyAsInt(called), want);
-        String after = allThatCanBeSeen(called);
-        String due = allThatCanBeSeen(spared);
-        if (!after.equals(due)) {
-            say(call + " left " + after + ", due is " + due);
+    /** The call gives the answer, and the object is then as it was before: a refusal, or a question. */
+    void keeps(String call, long want, Stage stage, ToIntFunction<SelectiveUndo> run) {
+        String where = stage + ", " + call;
+        SelectiveUndo asked = stage.made();
+        String before = everyAnswer(asked, stage);
+        answer(where, run.applyAsInt(asked), want);
+        same(where + ": the answers", everyAnswer(asked, stage), before);
+
+        SelectiveUndo called = stage.made();
+        run.applyAsInt(called);
+        same(where + ": what was hidden", whatIsHidden(called), whatIsHidden(stage.made()));
+    }
+
+    private void same(String what, String got, String want) {
+        if (!got.equals(want)) {
+            say(what + ": " + got + ", due is " + want);
         }
     }
 
-    /** Uses the object up; some 400 calls at most, as 512 are all that an object allows. */
-    private static String allThatCanBeSeen(SelectiveUndo x) {
+    /** Asks every question, also past the last number; 240 calls at most, so that it can be done twice in 512. */
+    private static String everyAnswer(SelectiveUndo x, Stage stage) {
         StringBuilder seen = new StringBuilder();
-        int changes = x.changes();
-        seen.append(changes).append(" changes, digest ").append(x.digest()).append(',');
-        for (int k = 0; k < changes; k++) {
+        seen.append(x.changes()).append(" changes, length ").append(x.length()).append(", digest ").append(x.digest());
+        for (int k = -1; k <= stage.changes; k++) {
             seen.append(' ').append(x.isOn(k)).append('/').append(x.where(k)).append('/').append(x.covers(k));
             seen.append('/').append(x.coveredBy(k)).append('/').append(x.effect(k));
         }
         seen.append(", text");
-        addText(seen, x);
-        for (int k = 0; k < changes; k++) {
-            x.put(k, x.covers(k) == 0 ? 1 : 0);
-        }
-        seen.append(", list");
-        addText(seen, x);
-        seen.append(", room");
-        for (int n = 0; n < 2; n++) {
-            seen.append(' ').append(x.type(0, 0));
+        for (int p = 0; p <= stage.length; p++) {
+            addPlace(seen, x, p);
         }
         return seen.toString();
     }
 
-    private static void addText(StringBuilder seen, SelectiveUndo x) {
+    /** What comes next, the whole list, what each erasing covers, and the room that is left; it uses the object up. */
+    private static String whatIsHidden(SelectiveUndo x) {
+        StringBuilder seen = new StringBuilder();
+        seen.append("undo ").append(x.undo()).append(", redo ").append(x.redo()).append(", list");
+        int changes = x.changes();
+        for (int k = 0; k < changes; k++) {
+            x.put(k, x.covers(k) == 0 ? 1 : 0);
+        }
         int length = x.length();
         for (int p = 0; p < length; p++) {
-            seen.append(' ').append(x.letter(p)).append('/').append(x.origin(p));
+            addPlace(seen, x, p);
         }
+        for (int k = 0; k < changes; k++) {
+            if (!x.isOn(k)) {
+                seen.append(", change ").append(k).append(" covers");
+                addCovered(seen, x, k);
+            }
+        }
+        return seen.append(", room ").append(x.type(0, 0)).append(' ').append(x.type(0, 0)).toString();
+    }
+
+    private static void addPlace(StringBuilder seen, SelectiveUndo x, int p) {
+        seen.append(' ').append(x.letter(p)).append('/').append(x.origin(p));
+    }
+
+    private static void addCovered(StringBuilder seen, SelectiveUndo x, int erasing) {
+        x.put(erasing, 1);
+        for (int k = 0; k < erasing; k++) {
+            seen.append(' ').append(x.coveredBy(k));
+        }
+        x.put(erasing, 0);
     }
 
     void say(String fault) {
         wrong++;
-        System.out.println(fault);
+        System.out.println(sentence + fault);
     }
 
     void end() {

@@ -1,31 +1,16 @@
-import java.util.function.Consumer;
-
 /** Each promise of the document: ordinary inputs, the edges that it names, and wrong inputs. */
 public final class PromiseTest {
     private static final int BAD_ARG = SelectiveUndo.BAD_ARG;
     private static final int FULL = SelectiveUndo.FULL;
     private static final int NONE = SelectiveUndo.NONE;
-    private static final int LEAST = Integer.MIN_VALUE;
-    private static final int GREATEST = Integer.MAX_VALUE;
+    private static final int LEAST = Stage.LEAST;
+    private static final int GREATEST = Stage.GREATEST;
 
     private static final Due due = new Due();
-    private static final Consumer<SelectiveUndo> EMPTY = x -> { };
-    private static final Consumer<SelectiveUndo> WORD = x -> typeWord(x, "abcde");
-    /** Changes 0 to 4 type abcde, 5 erases bcd, 6 types j behind a; the text is aje. */
-    private static final Consumer<SelectiveUndo> ERASED = x -> {
-        typeWord(x, "abcde");
-        x.erase(1, 4);
-        x.type(1, 9);
-    };
-    /** 32 changes, of which the last two erase and one is off; the text has 27 characters. */
-    private static final Consumer<SelectiveUndo> FILLED = x -> {
-        for (int n = 0; n < 30; n++) {
-            x.type(n, n % 26);
-        }
-        x.erase(0, 1);
-        x.erase(28, 29);
-        x.put(7, 0);
-    };
+    private static final Stage NEW = Stage.NEW;
+    private static final Stage WORD = Stage.WORD;
+    private static final Stage ERASED = Stage.ERASED;
+    private static final Stage FILLED = Stage.FILLED;
 
     public static void main(String[] args) {
         newObject();
@@ -55,18 +40,6 @@ public final class PromiseTest {
         questionsChangeNothing();
         objectsAreApart();
         due.end();
-    }
-
-    private static void typeWord(SelectiveUndo x, String word) {
-        for (int n = 0; n < word.length(); n++) {
-            x.type(n, word.charAt(n) - 'a');
-        }
-    }
-
-    private static SelectiveUndo made(Consumer<SelectiveUndo> build) {
-        SelectiveUndo x = new SelectiveUndo();
-        build.accept(x);
-        return x;
     }
 
     // Promise 1
@@ -101,25 +74,25 @@ public final class PromiseTest {
 
     // Promise 2 and the terms: the list's order is fixed, also for what is not shown
     private static void typeBehindWhatStoodThere() {
-        SelectiveUndo x = made(ERASED);
+        SelectiveUndo x = ERASED.made();
         due.text("bcd erased, j typed", x, "aje");
         x.put(5, 0);
         due.text("j stands directly behind a, before what was hidden", x, "ajbcde");
 
-        SelectiveUndo y = made(WORD);
+        SelectiveUndo y = WORD.made();
         y.erase(0, 5);
         y.type(0, 23);
         y.type(1, 24);
         y.put(5, 0);
         due.text("place 0 is the very begin of the list", y, "xyabcde");
 
-        SelectiveUndo z = made(WORD);
+        SelectiveUndo z = WORD.made();
         z.put(4, 0);
         z.type(4, 25);
         z.put(4, 1);
         due.text("the end of the text is not the end of the list", z, "abcdze");
 
-        SelectiveUndo w = made(WORD);
+        SelectiveUndo w = WORD.made();
         w.put(2, 0);
         w.type(2, 25);
         w.put(1, 0);
@@ -139,7 +112,7 @@ public final class PromiseTest {
         for (int p : wrongPlaces) {
             due.keeps("type(" + p + ", 0)", BAD_ARG, WORD, x -> x.type(p, 0));
         }
-        due.keeps("type(1, 0) into nothing", BAD_ARG, EMPTY, x -> x.type(1, 0));
+        due.keeps("type(1, 0) into nothing", BAD_ARG, NEW, x -> x.type(1, 0));
         due.keeps("type(4, 0) with a hidden rest", BAD_ARG, ERASED, x -> x.type(4, 0));
         due.keeps("type(-1, 0) when full", BAD_ARG, FILLED, x -> x.type(-1, 0));
         due.keeps("type(28, 0) when full", BAD_ARG, FILLED, x -> x.type(28, 0));
@@ -149,7 +122,7 @@ public final class PromiseTest {
 
     // Promise 3
     private static void eraseAnswersAndCovers() {
-        SelectiveUndo x = made(WORD);
+        SelectiveUndo x = WORD.made();
         due.answer("erase(1, 3)", x.erase(1, 3), 5);
         due.text("bc erased", x, "ade");
         due.answer("an erasing is on when it is made", x.isOn(5), true);
@@ -166,7 +139,7 @@ public final class PromiseTest {
         x.put(6, 0);
         due.text("all back", x, "zabcde");
 
-        SelectiveUndo y = made(WORD);
+        SelectiveUndo y = WORD.made();
         y.erase(1, 4);
         y.put(5, 0);
         y.type(2, 25);
@@ -182,7 +155,7 @@ public final class PromiseTest {
             String call = "erase(" + range[0] + ", " + range[1] + ")";
             due.keeps(call, BAD_ARG, WORD, x -> x.erase(range[0], range[1]));
         }
-        due.keeps("erase(0, 1) of nothing", BAD_ARG, EMPTY, x -> x.erase(0, 1));
+        due.keeps("erase(0, 1) of nothing", BAD_ARG, NEW, x -> x.erase(0, 1));
         due.keeps("erase(0, 4) with a hidden rest", BAD_ARG, ERASED, x -> x.erase(0, 4));
         due.keeps("erase(-1, 1) when full", BAD_ARG, FILLED, x -> x.erase(-1, 1));
         due.keeps("erase(1, 1) when full", BAD_ARG, FILLED, x -> x.erase(1, 1));
@@ -193,7 +166,7 @@ public final class PromiseTest {
 
     // Promise 4
     private static void putSwitches() {
-        SelectiveUndo x = made(ERASED);
+        SelectiveUndo x = ERASED.made();
         due.answer("put(0, 0) when on", x.put(0, 0), 1);
         due.text("a off", x, "je");
         due.answer("put(0, 0) when off", x.put(0, 0), 0);
@@ -220,7 +193,7 @@ public final class PromiseTest {
 
     // Promise 5
     private static void undoTakesTheHighest() {
-        SelectiveUndo x = made(ERASED);
+        SelectiveUndo x = ERASED.made();
         x.put(6, 0);
         due.answer("undo() of the erasing", x.undo(), 5);
         due.text("the erasing undone", x, "abcde");
@@ -234,12 +207,12 @@ public final class PromiseTest {
         due.answer("changes() stays", x.changes(), 7);
         x.put(6, 1);
         due.answer("undo() of what came back", x.undo(), 6);
-        due.keeps("undo() of nothing", NONE, y -> { WORD.accept(y); y.flip(0, 4); }, SelectiveUndo::undo);
+        due.keeps("undo() of nothing", NONE, Stage.ERASED_OFF, SelectiveUndo::undo);
     }
 
     // Promise 6
     private static void redoTakesTheLowest() {
-        SelectiveUndo x = made(ERASED);
+        SelectiveUndo x = ERASED.made();
         due.answer("redo() with all on", x.redo(), NONE);
         x.put(6, 0);
         x.put(5, 0);
@@ -258,7 +231,7 @@ public final class PromiseTest {
 
     // Promise 7
     private static void flipTurnsARange() {
-        SelectiveUndo x = made(WORD);
+        SelectiveUndo x = WORD.made();
         due.answer("flip(1, 3) of what is on", x.flip(1, 3), 0);
         due.text("bcd off", x, "ae");
         due.answer("flip(3, 4) of both kinds", x.flip(3, 4), 1);
@@ -269,7 +242,7 @@ public final class PromiseTest {
         due.text("all turned", x, "be");
         due.answer("flip(0, 0)", x.flip(0, 0), 1);
         due.text("a on", x, "abe");
-        SelectiveUndo y = made(ERASED);
+        SelectiveUndo y = ERASED.made();
         due.answer("flip(4, 6) with an erasing", y.flip(4, 6), 0);
         due.text("e, the erasing and j off", y, "abcd");
     }
@@ -282,13 +255,13 @@ public final class PromiseTest {
             String call = "flip(" + range[0] + ", " + range[1] + ")";
             due.keeps(call, BAD_ARG, ERASED, x -> x.flip(range[0], range[1]));
         }
-        due.keeps("flip(0, 0) of nothing", BAD_ARG, EMPTY, x -> x.flip(0, 0));
+        due.keeps("flip(0, 0) of nothing", BAD_ARG, NEW, x -> x.flip(0, 0));
         due.keeps("flip(0, 32) when full", BAD_ARG, FILLED, x -> x.flip(0, 32));
     }
 
     // Promise 8
     private static void changesCounts() {
-        SelectiveUndo x = made(ERASED);
+        SelectiveUndo x = ERASED.made();
         due.answer("changes() counts typings and erasings", x.changes(), 7);
         x.undo();
         x.flip(0, 6);
@@ -299,7 +272,7 @@ public final class PromiseTest {
 
     // Promise 9
     private static void isOnTells() {
-        SelectiveUndo x = made(ERASED);
+        SelectiveUndo x = ERASED.made();
         due.answer("isOn(0)", x.isOn(0), true);
         due.answer("isOn(1) of a covered character's typing", x.isOn(1), true);
         due.answer("isOn(6)", x.isOn(6), true);
@@ -313,7 +286,7 @@ public final class PromiseTest {
 
     // Promise 10
     private static void lengthCounts() {
-        SelectiveUndo x = made(ERASED);
+        SelectiveUndo x = ERASED.made();
         due.answer("length()", x.length(), 3);
         x.put(1, 0);
         due.answer("length() with a covered one off", x.length(), 3);
@@ -321,12 +294,12 @@ public final class PromiseTest {
         due.answer("length() without the covered one", x.length(), 5);
         x.put(1, 1);
         due.answer("length() of all", x.length(), 6);
-        due.answer("length() of the filled one", made(FILLED).length(), 27);
+        due.answer("length() of the filled one", FILLED.made().length(), 27);
     }
 
     // Promise 11
     private static void letterTells() {
-        SelectiveUndo x = made(ERASED);
+        SelectiveUndo x = ERASED.made();
         due.answer("letter(0)", x.letter(0), 0);
         due.answer("letter(1)", x.letter(1), 9);
         due.answer("letter(2)", x.letter(2), 4);
@@ -338,7 +311,7 @@ public final class PromiseTest {
 
     // Promise 12
     private static void originTells() {
-        SelectiveUndo x = made(ERASED);
+        SelectiveUndo x = ERASED.made();
         due.answer("origin(0)", x.origin(0), 0);
         due.answer("origin(1)", x.origin(1), 6);
         due.answer("origin(2)", x.origin(2), 4);
@@ -352,7 +325,7 @@ public final class PromiseTest {
 
     // Promise 13
     private static void whereTells() {
-        SelectiveUndo x = made(ERASED);
+        SelectiveUndo x = ERASED.made();
         due.answer("where(0)", x.where(0), 0);
         due.answer("where(6)", x.where(6), 1);
         due.answer("where(4)", x.where(4), 2);
@@ -371,7 +344,7 @@ public final class PromiseTest {
 
     // Promise 14
     private static void coversCounts() {
-        SelectiveUndo x = made(ERASED);
+        SelectiveUndo x = ERASED.made();
         due.answer("covers(5)", x.covers(5), 3);
         due.answer("covers(0) of a typing", x.covers(0), 0);
         due.answer("covers(6) of a typing", x.covers(6), 0);
@@ -389,7 +362,7 @@ public final class PromiseTest {
 
     // Promise 15
     private static void coveredByCounts() {
-        SelectiveUndo x = made(ERASED);
+        SelectiveUndo x = ERASED.made();
         due.answer("coveredBy(0)", x.coveredBy(0), 0);
         due.answer("coveredBy(2)", x.coveredBy(2), 1);
         x.put(5, 0);
@@ -405,7 +378,7 @@ public final class PromiseTest {
 
     // Promises 15 and 18: a number without a change is BAD_ARG, also next to an erasing
     private static void coveredByRefuses() {
-        SelectiveUndo x = made(WORD);
+        SelectiveUndo x = WORD.made();
         x.erase(1, 4);
         due.answer("coveredBy(5) of an erasing", x.coveredBy(5), NONE);
         x.put(5, 0);
@@ -414,7 +387,7 @@ public final class PromiseTest {
         for (int k : noChange) {
             due.answer("coveredBy(" + k + ")", x.coveredBy(k), BAD_ARG);
         }
-        SelectiveUndo y = made(FILLED);
+        SelectiveUndo y = FILLED.made();
         due.answer("coveredBy(31) when full", y.coveredBy(31), NONE);
         due.answer("coveredBy(32) when full", y.coveredBy(32), BAD_ARG);
         due.answer("coveredBy(-1) when full", y.coveredBy(-1), BAD_ARG);
@@ -422,7 +395,7 @@ public final class PromiseTest {
 
     // Promise 16
     private static void effectForetells() {
-        SelectiveUndo x = made(ERASED);
+        SelectiveUndo x = ERASED.made();
         due.answer("effect(0) of a shown one", x.effect(0), -1);
         due.answer("effect(1) of a covered one", x.effect(1), 0);
         x.put(0, 0);
@@ -437,7 +410,7 @@ public final class PromiseTest {
 
     // Promise 16
     private static void effectOfCovers() {
-        SelectiveUndo x = made(ERASED);
+        SelectiveUndo x = ERASED.made();
         due.answer("effect(5) of an erasing", x.effect(5), 3);
         x.put(2, 0);
         due.answer("effect(5) with one of them off", x.effect(5), 2);
@@ -453,7 +426,7 @@ public final class PromiseTest {
 
     // Promise 17
     private static void digestSums() {
-        SelectiveUndo x = made(ERASED);
+        SelectiveUndo x = ERASED.made();
         due.answer("digest() of aje", x.digest(), 1 + 2 * 10 + 3 * 5);
         x.put(0, 0);
         due.answer("digest() of je", x.digest(), 10 + 2 * 5);
@@ -508,7 +481,7 @@ public final class PromiseTest {
     private static void questionsChangeNothing() {
         for (int number = -1; number <= 8; number++) {
             int k = number;
-            SelectiveUndo x = made(ERASED);
+            SelectiveUndo x = ERASED.made();
             due.keeps("letter(" + k + ")", x.letter(k), ERASED, y -> y.letter(k));
             due.keeps("origin(" + k + ")", x.origin(k), ERASED, y -> y.origin(k));
             due.keeps("where(" + k + ")", x.where(k), ERASED, y -> y.where(k));
@@ -523,8 +496,8 @@ public final class PromiseTest {
     }
 
     private static void objectsAreApart() {
-        SelectiveUndo x = made(WORD);
-        SelectiveUndo y = made(ERASED);
+        SelectiveUndo x = WORD.made();
+        SelectiveUndo y = ERASED.made();
         x.undo();
         due.text("the one", x, "abcd");
         due.text("the other", y, "aje");
