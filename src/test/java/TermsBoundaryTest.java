@@ -52,6 +52,7 @@ public final class TermsBoundaryTest {
         typingDirectlyBehind();
         erasingCoversPlacesIToJMinus1();
         shownIfOnAndNotCovered();
+        theCodesAreTheNumbersNamed();
         noCallEverThrows();
         aRefusedCallChangesNothing();
         all512CallsAnswer();
@@ -241,6 +242,18 @@ public final class TermsBoundaryTest {
             due.text(when, x, mask == 1 ? "h" : "");
             due.answer(when + ", where(0)", x.where(0), mask == 1 ? 0 : NONE);
         }
+    }
+
+    private static void theCodesAreTheNumbersNamed() {
+        due.sentence("`BAD_ARG = -1`: An argument is out of its range.");
+        due.answer("BAD_ARG", SelectiveUndo.BAD_ARG, -1);
+        due.answer("type(0, 26)", new SelectiveUndo().type(0, 26), -1);
+        due.sentence("`FULL = -2`: A limit is reached.");
+        due.answer("FULL", SelectiveUndo.FULL, -2);
+        due.answer("type(0, 25) with 32 changes", Stage.LONGEST.made().type(0, 25), -2);
+        due.sentence("`NONE = -4`: There is no such thing.");
+        due.answer("NONE", SelectiveUndo.NONE, -4);
+        due.answer("undo() without a change", new SelectiveUndo().undo(), -4);
     }
 
     private static void noCallEverThrows() {
