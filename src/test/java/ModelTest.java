@@ -1,10 +1,20 @@
-/** Many mixed runs of calls, each answer compared with the model's. */
+import java.util.ArrayList;
+import java.util.Collections;
+import java.util.HashSet;
+import java.util.List;
+import java.util.Set;
+
+/** Runs of 512 mixed calls on one object each, refused ones among them, each answer compared with the model's. */
 public final class ModelTest {
     private static final int RUNS = 3000;
     private static final int CALLS_OF_AN_OBJECT = 512;
     private static final int[] EXTREMES = {Integer.MIN_VALUE, -100, -2, 31, 32, 33, 48, 64, 100, Integer.MAX_VALUE};
+    /** Unlike enough that in some runs nearly all changes are off, in some nearly all on, and some are full late. */
+    private static final int[] WEIGHTS = {1, 1, 2, 8};
 
     private final Due due = new Due();
+    private final Set<String> metInside = new HashSet<>();
+    private final Set<String> metLast = new HashSet<>();
     private long state = 20261115L;
 
     public static void main(String[] args) {
@@ -12,6 +22,8 @@ public final class ModelTest {
         for (int run = 0; run < RUNS; run++) {
             test.compareOneRun(run);
         }
+        test.everyAnswerWasMet("inside a run", test.metInside);
+        test.everyAnswerWasMet("as the last of 512 calls", test.metLast);
         test.due.end();
     }
 
@@ -32,59 +44,60 @@ public final class ModelTest {
     private void compareOneRun(int run) {
         SelectiveUndo x = new SelectiveUndo();
         Model model = new Model();
-        int slowness = 1 + next(8);
-        for (int call = 0; call < CALLS_OF_AN_OBJECT; call++) {
-            String where = "run " + run + ", call " + call + ": ";
-            if (next(slowness) == 0) {
-                compareEdit(where, x, model);
-            } else if (next(4) == 0) {
-                compareSwitch(where, x, model);
-            } else {
-                compareQuestion(where, x, model);
+        List<Call> mix = mixOfCalls();
+        for (int number = 1; number < CALLS_OF_AN_OBJECT; number++) {
+            Call call = mix.get(next(mix.size()));
+            metInside.add(compare("run " + run + ", call " + number, call, x, model));
+        }
+        Call last = Call.values()[run % Call.values().length];
+        metLast.add(compare("run " + run + ", call " + CALLS_OF_AN_OBJECT, last, x, model));
+    }
+
+    /** Each call once or more often, by a weight that is drawn for it. */
+    private List<Call> mixOfCalls() {
+        List<Call> mix = new ArrayList<>();
+        for (Call call : Call.values()) {
+            mix.addAll(Collections.nCopies(WEIGHTS[next(WEIGHTS.length)], call));
+        }
+        return mix;
+    }
+
+    /** Answers what was met: the call, with the code if it answered one of its own. */
+    private String compare(String where, Call call, SelectiveUndo x, Model model) {
+        int a = firstArgument(call, model);
+        int b = secondArgument(call, model);
+        int want = call.answer(model, a, b);
+        due.answer(where + ": " + call.told(a, b), call.answer(x, a, b), want);
+        return call.refusesBy(want) ? call + " " + want : call.toString();
+    }
+
+    private int firstArgument(Call call, Model model) {
+        return switch (call) {
+            case TYPE, ERASE, LETTER, ORIGIN -> near(model.length());
+            default -> near(model.changes());
+        };
+    }
+
+    private int secondArgument(Call call, Model model) {
+        return switch (call) {
+            case TYPE -> near(25);
+            case ERASE -> near(model.length());
+            case PUT -> near(1);
+            default -> near(model.changes());
+        };
+    }
+
+    /** Runs that never come to an answer would leave it untested without anyone seeing it. */
+    private void everyAnswerWasMet(String where, Set<String> met) {
+        for (Call call : Call.values()) {
+            if (!met.contains(call.toString())) {
+                due.say("no run has " + call + " taken " + where);
             }
-        }
-    }
-
-    private void compareEdit(String where, SelectiveUndo x, Model model) {
-        if (next(3) > 0) {
-            int p = near(model.length());
-            int c = near(25);
-            due.answer(where + "type(" + p + ", " + c + ")", x.type(p, c), model.type(p, c));
-        } else {
-            int i = near(model.length());
-            int j = near(model.length());
-            due.answer(where + "erase(" + i + ", " + j + ")", x.erase(i, j), model.erase(i, j));
-        }
-    }
-
-    private void compareSwitch(String where, SelectiveUndo x, Model model) {
-        int a = near(model.changes());
-        int b = near(model.changes());
-        switch (next(4)) {
-            case 0 -> {
-                int on = next(4) - 1;
-                due.answer(where + "put(" + a + ", " + on + ")", x.put(a, on), model.put(a, on));
+            for (int code : call.codes) {
+                if (!met.contains(call + " " + code)) {
+                    due.say("no run has " + call + " answering " + code + " " + where);
+                }
             }
-            case 1 -> due.answer(where + "undo()", x.undo(), model.undo());
-            case 2 -> due.answer(where + "redo()", x.redo(), model.redo());
-            default -> due.answer(where + "flip(" + a + ", " + b + ")", x.flip(a, b), model.flip(a, b));
-        }
-    }
-
-    private void compareQuestion(String where, SelectiveUndo x, Model model) {
-        int k = near(model.changes());
-        int p = near(model.length());
-        switch (next(10)) {
-            case 0 -> due.answer(where + "changes()", x.changes(), model.changes());
-            case 1 -> due.answer(where + "isOn(" + k + ")", x.isOn(k), model.isOn(k));
-            case 2 -> due.answer(where + "length()", x.length(), model.length());
-            case 3 -> due.answer(where + "letter(" + p + ")", x.letter(p), model.letter(p));
-            case 4 -> due.answer(where + "origin(" + p + ")", x.origin(p), model.origin(p));
-            case 5 -> due.answer(where + "where(" + k + ")", x.where(k), model.where(k));
-            case 6 -> due.answer(where + "covers(" + k + ")", x.covers(k), model.covers(k));
-            case 7 -> due.answer(where + "coveredBy(" + k + ")", x.coveredBy(k), model.coveredBy(k));
-            case 8 -> due.answer(where + "effect(" + k + ")", x.effect(k), model.effect(k));
-            default -> due.answer(where + "digest()", x.digest(), model.digest());
         }
     }
 }

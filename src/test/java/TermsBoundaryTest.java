@@ -2,44 +2,9 @@
 public final class TermsBoundaryTest {
     private static final int FULL = SelectiveUndo.FULL;
     private static final int NONE = SelectiveUndo.NONE;
-    private static final int CALLS_OF_AN_OBJECT = 512;
     private static final int[] ANY_INT = {Stage.LEAST, -33, -1, 0, 1, 3, 6, 26, 27, 31, 32, 64, Stage.GREATEST};
 
     private static final Due due = new Due();
-
-    private interface Action {
-        int answer(SelectiveUndo x, int a, int b);
-    }
-
-    /** A call with two arguments; one that takes fewer leaves the rest aside. */
-    private record Call(String name, Action action) {
-        int answer(SelectiveUndo x, int a, int b) {
-            return action.answer(x, a, b);
-        }
-
-        String told(int a, int b) {
-            return name + " with " + a + " and " + b;
-        }
-    }
-
-    private static final Call[] CHANGING = {
-        new Call("type", SelectiveUndo::type),
-        new Call("erase", SelectiveUndo::erase),
-        new Call("put", SelectiveUndo::put),
-        new Call("flip", SelectiveUndo::flip),
-        new Call("undo", (x, a, b) -> x.undo()),
-        new Call("redo", (x, a, b) -> x.redo())};
-    private static final Call[] ASKING = {
-        new Call("changes", (x, a, b) -> x.changes()),
-        new Call("isOn", (x, a, b) -> x.isOn(a) ? 1 : 0),
-        new Call("length", (x, a, b) -> x.length()),
-        new Call("letter", (x, a, b) -> x.letter(a)),
-        new Call("origin", (x, a, b) -> x.origin(a)),
-        new Call("where", (x, a, b) -> x.where(a)),
-        new Call("covers", (x, a, b) -> x.covers(a)),
-        new Call("coveredBy", (x, a, b) -> x.coveredBy(a)),
-        new Call("effect", (x, a, b) -> x.effect(a)),
-        new Call("digest", (x, a, b) -> x.digest())};
 
     public static void main(String[] args) {
         lettersAre0To25();
@@ -55,7 +20,6 @@ public final class TermsBoundaryTest {
         theCodesAreTheNumbersNamed();
         noCallEverThrows();
         aRefusedCallChangesNothing();
-        all512CallsAnswer();
         laterCallsEndToo();
         due.end();
     }
@@ -259,15 +223,14 @@ public final class TermsBoundaryTest {
     private static void noCallEverThrows() {
         due.sentence("No call ever throws.");
         for (Stage stage : Stage.values()) {
-            forAnyInts(CHANGING, (call, a, b) -> endsWell(stage, stage.made(), call, a, b));
-            forAnyInts(ASKING, (call, a, b) -> endsWell(stage, stage.made(), call, a, b));
+            forAnyInts(Call.values(), (call, a, b) -> endsWell(stage, stage.made(), call, a, b));
         }
     }
 
     private static void aRefusedCallChangesNothing() {
         due.sentence("A refused call answers the code named and changes nothing.");
         for (Stage stage : Stage.values()) {
-            forAnyInts(CHANGING, (call, a, b) -> {
+            forAnyInts(Call.CHANGING, (call, a, b) -> {
                 int answer = call.answer(stage.made(), a, b);
                 if (answer < 0) {
                     due.keeps(call.told(a, b), answer, stage, x -> call.answer(x, a, b));
@@ -276,23 +239,12 @@ public final class TermsBoundaryTest {
         }
     }
 
-    private static void all512CallsAnswer() {
-        due.sentence("An object is used for at most 512 calls after it has been made");
-        SelectiveUndo x = new SelectiveUndo();
-        due.answer("call 1", x.type(0, 0), 0);
-        for (int call = 2; call < CALLS_OF_AN_OBJECT; call++) {
-            due.answer("call " + call, x.put(0, call % 2), call % 2 == 0 ? 1 : 0);
-        }
-        due.answer("call 512", x.type(1, 1), 1);
-    }
-
     /** Though their answers are free, LANGUAGE.md's rule 7 holds in any state. */
     private static void laterCallsEndToo() {
         due.sentence("what later calls answer is free");
         for (Stage stage : Stage.values()) {
             SelectiveUndo x = stage.made();
-            forAnyInts(CHANGING, (call, a, b) -> endsWell(stage, x, call, a, b));
-            forAnyInts(ASKING, (call, a, b) -> endsWell(stage, x, call, a, b));
+            forAnyInts(Call.values(), (call, a, b) -> endsWell(stage, x, call, a, b));
         }
     }
 
